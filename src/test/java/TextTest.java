@@ -1,0 +1,206 @@
+/** Promise 7: the commands of the text and the error position. */
+public final class TextTest {
+    private static final Checker CHECKER = new Checker("TextTest");
+
+    public static void main(String[] args) {
+        commands();
+        shifts();
+        frames();
+        spaces();
+        errors();
+        numberErrors();
+        endErrors();
+        nothingChanges();
+        CHECKER.finish();
+    }
+
+    private static void canvas(String what, FrameDeltas x, String... rows) {
+        int cell = 0;
+        for (String row : rows) {
+            for (int i = 0; i < row.length(); i++) {
+                CHECKER.due("promise 7: " + what + ", cell " + cell, x.cell(cell),
+                        Character.digit(row.charAt(i), 16));
+                cell++;
+            }
+        }
+    }
+
+    private static void draws(FrameDeltas x, String text, int want) {
+        CHECKER.due("promise 7: draw of \"" + text + "\"", Checker.draw(x, text), want);
+    }
+
+    private static void commands() {
+        FrameDeltas x = Checker.sized(8, 4);
+        draws(x, "fill 15;", 1);
+        canvas("fill", x, "ffffffff", "ffffffff", "ffffffff", "ffffffff");
+        CHECKER.due("promise 7: the text is empty then", x.count(8), 0);
+        draws(x, "box 1 2 3 1 4;", 1);
+        canvas("box", x, "ffffffff", "ffffffff", "f444ffff", "ffffffff");
+        draws(x, "box 6 0 12 12 0;box 12 12 12 12 9;box 0 0 0 4 3;box 0 0 4 0 3;", 4);
+        canvas("boxes", x, "ffffff00", "ffffff00", "f444ff00", "ffffff00");
+        draws(x, "swap 15 4;", 1);
+        canvas("swap", x, "44444400", "44444400", "4fff4400", "44444400");
+        draws(x, "swap 4 4;swap 1 2;", 2);
+        canvas("swaps", x, "44444400", "44444400", "4fff4400", "44444400");
+        draws(x, "fill 1;swap 1 2;swap 2 3;box 0 0 1 1 4;", 4);
+        canvas("in order", x, "43333333", "33333333", "33333333", "33333333");
+        draws(x, "", 0);
+        draws(x, "     ", 0);
+        CHECKER.due("promise 7: a blank text goes too", x.count(8), 0);
+    }
+
+    private static void shifts() {
+        FrameDeltas x = Checker.sized(4, 4, "1234", "5678", "9abc", "def1");
+        draws(x, "shift 1 0;", 1);
+        canvas("right", x, "0123", "0567", "09ab", "0def");
+        draws(x, "shift -2 0;", 1);
+        canvas("left", x, "2300", "6700", "ab00", "ef00");
+        draws(x, "shift 0 1;", 1);
+        canvas("down", x, "0000", "2300", "6700", "ab00");
+        draws(x, "shift 1-2;", 1);
+        canvas("right and up", x, "0670", "0ab0", "0000", "0000");
+        draws(x, "shift -0 -0;", 1);
+        canvas("no shift", x, "0670", "0ab0", "0000", "0000");
+        draws(x, "shift 12 0;", 1);
+        canvas("out", x, "0000", "0000", "0000", "0000");
+        draws(x, "fill 1;shift 0 -12;", 2);
+        canvas("out at the top", x, "0000", "0000", "0000", "0000");
+    }
+
+    private static void frames() {
+        FrameDeltas x = Checker.sized(4, 4, "1111", "0000", "0000", "0000");
+        x.addKey();
+        draws(x, "fill 7;", 1);
+        x.addKey();
+        draws(x, "frame 0;", 1);
+        canvas("frame 0", x, "1111", "0000", "0000", "0000");
+        draws(x, "shift 0 1;frame1;", 2);
+        canvas("frame 1", x, "7777", "7777", "7777", "7777");
+        draws(x, "frame 2;", -16);
+        draws(x, "frame 10;", -16);
+        draws(x, "frame -0;", -16);
+        x.setLost(0, 1);
+        draws(x, "frame 0;", -16);
+        draws(x, "frame 1;", 1);
+        x.setLost(0, 0);
+        draws(x, "frame 0;", 1);
+        canvas("found again", x, "1111", "0000", "0000", "0000");
+    }
+
+    private static void spaces() {
+        FrameDeltas x = Checker.sized(4, 4);
+        draws(x, "  box  1   0 2 1   5  ;  fill0;", 2);
+        draws(x, "box1 0 2 1 5;", 1);
+        canvas("few spaces", x, "0550", "0000", "0000", "0000");
+        draws(x, "shift-1-0;", 1);
+        canvas("no spaces", x, "5500", "0000", "0000", "0000");
+        draws(x, "shift-1 0 ; fill 2 ;", 2);
+        canvas("spaces before the end", x, "2222", "2222", "2222", "2222");
+    }
+
+    private static void errors() {
+        FrameDeltas x = Checker.sized(4, 4);
+        draws(x, "fil 1;", -10);
+        draws(x, "filll 1;", -10);
+        draws(x, "fi ll 1;", -10);
+        draws(x, "Fill 1;", -10);
+        draws(x, ";", -10);
+        draws(x, "fill 1;;", -17);
+        draws(x, "fill;", -14);
+        draws(x, "fill fill;", -15);
+        draws(x, "fill 1 fill 2;", -17);
+        draws(x, "fill 1,", -16);
+        draws(x, "fill 1a;", -16);
+        draws(x, "  dot 1;", -12);
+        draws(x, "fill 1; dot", -18);
+        draws(x, "5;", -10);
+        draws(x, "fill\t1;", -14);
+        draws(x, "swap 1 2 3;", -19);
+        draws(x, "box 1 1 1 1;", -21);
+        draws(x, "fill 1;fill 16;fill 17;", -22);
+        x.clearText();
+        x.appendCharacter(0);
+        CHECKER.due("promise 7: draw of a sign 0", x.draw(), -10);
+        x.clearText();
+        Checker.type(x, "fill 1");
+        x.appendCharacter(160);
+        x.appendCharacter(59);
+        CHECKER.due("promise 7: draw with a sign 160", x.draw(), -16);
+    }
+
+    private static void numberErrors() {
+        FrameDeltas x = Checker.sized(4, 4);
+        draws(x, "fill 16;", -15);
+        draws(x, "fill 123;", -15);
+        draws(x, "fill 01;", -15);
+        draws(x, "fill 00;", -15);
+        draws(x, "fill -1;", -15);
+        draws(x, "fill -0;", -15);
+        draws(x, "fill 1 2;", -17);
+        draws(x, "swap 12;", -17);
+        draws(x, "swap 16 1;", -15);
+        draws(x, "swap 1 16;", -17);
+        draws(x, "box 13 0 0 0 0;", -14);
+        draws(x, "box 0 13 0 0 0;", -16);
+        draws(x, "box 0 0 13 0 0;", -18);
+        draws(x, "box 0 0 0 13 0;", -20);
+        draws(x, "box 0 0 0 0 16;", -22);
+        draws(x, "box 12 12 12 12 15;", 1);
+        draws(x, "box 0 -1 0 0 0;", -16);
+        draws(x, "shift 13 0;", -16);
+        draws(x, "shift 0 -13;", -18);
+        draws(x, "shift -12 12;", 1);
+        draws(x, "shift -01 0;", -16);
+        draws(x, "shift --1 0;", -16);
+        draws(x, "shift - 1 0;", -16);
+        draws(x, "shift 1- 2;", -17);
+        draws(x, "shift -100 0;", -16);
+        draws(x, "fill 5-;", -16);
+        draws(x, "fill 5-1;", -16);
+        draws(x, "fill 99999999999999999999;", -15);
+    }
+
+    private static void endErrors() {
+        FrameDeltas x = Checker.sized(4, 4);
+        draws(x, "fill", -14);
+        draws(x, "fill ", -15);
+        draws(x, "fill 1", -16);
+        draws(x, "fill 1   ", -19);
+        draws(x, "fill 1;swap 1", -23);
+        draws(x, "shift -", -16);
+        draws(x, "shift 1 1", -19);
+        draws(x, "fill 16", -15);
+        draws(x, "fil", -10);
+        StringBuilder full = new StringBuilder();
+        while (full.length() < 153) {
+            full.append(' ');
+        }
+        draws(x, full + "fill 10", -170);
+        draws(x, full + "fill 1;", 1);
+        full.setLength(0);
+        while (full.length() < 155) {
+            full.append("fill0;");
+        }
+        draws(x, full + "fill", -170);
+        full.append("    ");
+        draws(x, full.toString(), 26);
+        CHECKER.due("promise 7: saved once a draw", x.count(9), 3);
+    }
+
+    private static void nothingChanges() {
+        FrameDeltas x = Checker.sized(4, 4);
+        x.setCell(5, 5);
+        int saved = x.count(9);
+        Checker.type(x, "fill 1;fill 2");
+        String before = Checker.allAnswers(x);
+        CHECKER.due("promise 7: an error behind a command", x.draw(), -23);
+        CHECKER.holds("promise 7: an error changes nothing", before.equals(Checker.allAnswers(x)));
+        CHECKER.due("promise 7: the text is kept", x.count(8), 13);
+        CHECKER.due("promise 7: the text can be ended", x.appendCharacter(59), 14);
+        CHECKER.due("promise 7: and drawn", x.draw(), 2);
+        CHECKER.due("promise 7: cell(5)", x.cell(5), 2);
+        CHECKER.due("promise 7: saved", x.count(9), saved + 1);
+        CHECKER.due("promise 7: an empty text", x.draw(), 0);
+        CHECKER.due("promise 7: is saved too", x.count(9), saved + 2);
+    }
+}
