@@ -117,6 +117,14 @@ public final class CodingTest {
         Checker.draw(x, "shift -1 0;");
         x.addDelta(0);
         due("promise 17: no move goes out of the reference", x.code(1, 0, 0), 3);
+        x = Checker.sized(4, 8, "1234", "1234", "1234", "5678", "9abc", "def0", "4321", "1111");
+        x.addKey();
+        Checker.draw(x, "shift 0 -2;");
+        x.addDelta(0);
+        code("down from the top", x, 1, 0, 1, 0, 2, -9);
+        Checker.draw(x, "frame 0;shift 0 2;");
+        x.addDelta(0);
+        code("up from the bottom", x, 2, 1, 1, 0, -2, -9);
         x = Checker.sized(8, 4);
         Checker.draw(x, "box 7 0 1 4 7;");
         x.addKey();

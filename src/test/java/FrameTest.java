@@ -4,8 +4,10 @@ public final class FrameTest {
 
     public static void main(String[] args) {
         adding();
+        longestChain();
         removing();
         recoding();
+        recodingOneFrame();
         recodingWithRange();
         limits();
         losing();
@@ -49,6 +51,22 @@ public final class FrameTest {
         due("promise 9 to 11: nothing is saved", x.count(9), saved);
         x.setLost(0, 1);
         due("promise 10: full, and lost", x.addDelta(1), -2);
+    }
+
+    private static void longestChain() {
+        FrameDeltas x = Checker.sized(4, 4);
+        x.setLimits(2, 9, 0);
+        x.addKey();
+        for (int f = 1; f < 10; f++) {
+            due("promise 10: the longest chain", x.addDelta(f - 1), 3);
+        }
+        due("promise 16: depth", x.frame(9, 3), 9);
+        due("promise 16: seek cost", x.frame(9, 2), 6 + 9 * 3);
+        due("promise 25: greatestSeek()", x.greatestSeek(), 33);
+        due("promise 26: dependents(0)", x.dependents(0), 10);
+        due("promise 15: the key frame is lost", x.setLost(0, 1), 0);
+        due("promise 16: the last cannot be decoded", x.frame(9, 4), 0);
+        due("promise 10: at depth 9", x.addDelta(9), -2);
     }
 
     private static void removing() {
@@ -107,6 +125,18 @@ public final class FrameTest {
         due("promise 13: the key frames", x.frame(2, 0), -9);
         due("promise 13: the key frames", x.frame(1, 0), 0);
         due("promise 13: the key frames", x.frame(3, 0), 2);
+    }
+
+    private static void recodingOneFrame() {
+        FrameDeltas x = Checker.sized(4, 4);
+        x.setLimits(2, 4, 3);
+        x.addKey();
+        x.setLost(0, 1);
+        due("promise 28: one frame", x.planCost(), 6 + 3 * 6);
+        due("promise 29: one frame", x.planKeys(), 1);
+        due("promise 13: one frame", x.recode(), 24);
+        due("promise 13: it is not lost then", x.count(7), 1);
+        due("promise 13: its cost", x.frame(0, 1), 6);
     }
 
     private static void recodingWithRange() {

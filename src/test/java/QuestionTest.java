@@ -8,9 +8,12 @@ public final class QuestionTest {
         finding();
         findingErrors();
         matches();
+        neighbours();
+        lastCorner();
         seeks();
         dependent();
         patches();
+        patchOfAllCells();
         plans();
         planTies();
         planOfNumbers();
@@ -82,6 +85,10 @@ public final class QuestionTest {
         x.addKey();
         Checker.draw(x, "fill 0;box 9 8 3 4 5;box 0 0 1 1 1;");
         due("promise 23: not across the edge", x.findBlock(3, 8), -9);
+        x = Checker.sized(4, 4, "1111");
+        x.addKey();
+        Checker.draw(x, "fill 0;");
+        due("promise 23: not below the edge", x.findBlock(0, 0), -9);
     }
 
     private static void findingErrors() {
@@ -125,6 +132,63 @@ public final class QuestionTest {
         due("promise 24: behind a lost one", x.falseMatches(1), -2);
         due("promise 24: no such frame", x.falseMatches(2), -1);
         due("promise 24: the canvas", x.falseMatches(-1), 0);
+    }
+
+    /** Parts that overlap by three rows, made the same digest by the last row. */
+    private static void neighbours() {
+        FrameDeltas x = Checker.sized(4, 8, "1234", "5678", "9abc", "def1");
+        int made = 0;
+        for (int number = 0; number < 65536 && made == 0; number++) {
+            int[] image = new int[20];
+            for (int i = 0; i < 20; i++) {
+                image[i] = i < 16 ? x.cell(i) : number >> 4 * (i - 16) & 15;
+            }
+            if (digestOf(image, 0) == digestOf(image, 4)) {
+                made = number;
+            }
+        }
+        CHECKER.holds("promise 24: the test found its row", made > 0);
+        for (int i = 16; i < 20; i++) {
+            x.setCell(i, made >> 4 * (i - 16) & 15);
+        }
+        due("promise 24: digests", x.digest(-1, 0, 0), x.digest(-1, 0, 1));
+        due("promise 24: neighbours", x.falseMatches(-1), 1);
+    }
+
+    private static int digestOf(int[] cells, int from) {
+        int digest = 7;
+        for (int i = 0; i < 16; i++) {
+            digest = (digest * 31 + cells[from + i]) % 9973;
+        }
+        return digest;
+    }
+
+    /** A part in the last corner of 12 by 12 cells; outside of it no part counts. */
+    private static void lastCorner() {
+        FrameDeltas x = new FrameDeltas();
+        x.setSize(12, 12);
+        int[] other = sameDigestAsZeros();
+        for (int i = 0; i < 16; i++) {
+            x.setCell((8 + i / 4) * 12 + 8 + i % 4, other[i]);
+        }
+        int zeros = 0;
+        int alike = 0;
+        for (int p = 0; p < 81; p++) {
+            boolean isZero = p % 9 <= 4 || p / 9 <= 4 || !touches(x, p % 9, p / 9);
+            zeros += isZero ? 1 : 0;
+            alike += !isZero && x.digest(-1, p % 9, p / 9) == 1574 ? 1 : 0;
+        }
+        CHECKER.holds("promise 24: the last corner is alike", alike > 0);
+        due("promise 24: with the last corner", x.falseMatches(-1), zeros * alike);
+    }
+
+    private static boolean touches(FrameDeltas x, int left, int top) {
+        for (int i = 0; i < 16; i++) {
+            if (x.cell((top + i / 4) * 12 + left + i % 4) != 0) {
+                return true;
+            }
+        }
+        return false;
     }
 
     private static int[] sameDigestAsZeros() {
@@ -223,6 +287,17 @@ public final class QuestionTest {
         x.setLost(0, 1);
         due("promise 27: none", x.patch(2), -9);
         due("promise 27: not lost, and none", x.patch(4), -2);
+    }
+
+    private static void patchOfAllCells() {
+        FrameDeltas x = new FrameDeltas();
+        x.setSize(12, 12);
+        x.addKey();
+        Checker.draw(x, "fill 1;");
+        x.addKey();
+        x.setLost(1, 1);
+        due("promise 27: all cells differ", x.patch(1), 0);
+        due("promise 22: all cells differ", x.difference(0, -1), 144);
     }
 
     /** Every set by itself: sums and chains are made from what costWith says of the images. */

@@ -65,6 +65,12 @@ public final class TextTest {
         canvas("out", x, "0000", "0000", "0000", "0000");
         draws(x, "fill 1;shift 0 -12;", 2);
         canvas("out at the top", x, "0000", "0000", "0000", "0000");
+        draws(x, "fill 1;shift -1 0;", 2);
+        canvas("zeros from the right", x, "1110", "1110", "1110", "1110");
+        draws(x, "swap 0 5;shift 0 -1;", 2);
+        canvas("zeros from below", x, "1115", "1115", "1115", "0000");
+        draws(x, "fill 1;shift 1 1;", 2);
+        canvas("zeros from above and left", x, "0000", "0111", "0111", "0111");
     }
 
     private static void frames() {
@@ -102,6 +108,10 @@ public final class TextTest {
         FrameDeltas x = Checker.sized(4, 4);
         draws(x, "fil 1;", -10);
         draws(x, "filll 1;", -10);
+        draws(x, "fillz 1;", -10);
+        draws(x, "filla 1;", -10);
+        draws(x, "bill 1;", -10);
+        draws(x, "fillbox 1;", -10);
         draws(x, "fi ll 1;", -10);
         draws(x, "Fill 1;", -10);
         draws(x, ";", -10);
