@@ -17,7 +17,7 @@ public final class CanvasTest {
     }
 
     private static void newObject() {
-        FrameDeltas x = new FrameDeltas();
+        Counted x = new Counted();
         int[] counts = {8, 8, 0, 2, 4, 0, 0, 0, 0, 0};
         for (int what = 0; what < counts.length; what++) {
             due("promise 1: count(" + what + ")", x.count(what), counts[what]);
@@ -34,7 +34,7 @@ public final class CanvasTest {
         int[] lengths = {4, 8, 12};
         for (int width : lengths) {
             for (int height : lengths) {
-                FrameDeltas x = new FrameDeltas();
+                Counted x = new Counted();
                 x.setCell(0, 5);
                 x.addKey();
                 due("promise 2: setSize", x.setSize(width, height), width * height / 16);
@@ -50,7 +50,7 @@ public final class CanvasTest {
     }
 
     private static void wrongSizes() {
-        FrameDeltas x = new FrameDeltas();
+        Counted x = new Counted();
         x.setCell(3, 7);
         x.addKey();
         int[] wrong = {Integer.MIN_VALUE, -4, 0, 1, 3, 5, 7, 9, 11, 13, 16, Integer.MAX_VALUE};
@@ -75,7 +75,7 @@ public final class CanvasTest {
     }
 
     private static void cells() {
-        FrameDeltas x = new FrameDeltas();
+        Counted x = new Counted();
         x.setSize(4, 8);
         due("promise 3: setCell(31, 15)", x.setCell(31, 15), 0);
         due("promise 3: setCell(31, 0)", x.setCell(31, 0), 15);
@@ -96,7 +96,7 @@ public final class CanvasTest {
     }
 
     private static void text() {
-        FrameDeltas x = new FrameDeltas();
+        Counted x = new Counted();
         due("promise 5: appendCharacter(-1)", x.appendCharacter(-1), -1);
         due("promise 5: appendCharacter(256)", x.appendCharacter(256), -1);
         due("promise 5: length", x.count(8), 0);
@@ -117,7 +117,7 @@ public final class CanvasTest {
 
     /** The digest by its definition, over a canvas of 12 by 8 cells. */
     private static void digests() {
-        FrameDeltas x = new FrameDeltas();
+        Counted x = new Counted();
         x.setSize(12, 8);
         int[] values = new int[96];
         for (int i = 0; i < 96; i++) {
@@ -137,11 +137,11 @@ public final class CanvasTest {
                 CHECKER.holds("promise 8: digest(-1, ..)", same == (x.digest(-1, left, top) == digest));
             }
         }
-        due("promise 8: of zeros", new FrameDeltas().digest(-1, 0, 0), 1574);
+        due("promise 8: of zeros", new Counted().digest(-1, 0, 0), 1574);
     }
 
     private static void digestErrors() {
-        FrameDeltas x = new FrameDeltas();
+        Counted x = new Counted();
         x.setSize(12, 8);
         x.addKey();
         x.addDelta(0);

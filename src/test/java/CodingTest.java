@@ -21,14 +21,14 @@ public final class CodingTest {
         CHECKER.due(what, got, want);
     }
 
-    private static void code(String what, FrameDeltas x, int frame, int block, int... parts) {
+    private static void code(String what, Counted x, int frame, int block, int... parts) {
         for (int part = 0; part < 4; part++) {
             due("promise 17: " + what + ", part " + part, x.code(frame, block, part), parts[part]);
         }
     }
 
     private static void keyFrames() {
-        FrameDeltas x = Checker.sized(8, 4, "00001200", "00001200", "00001200", "00001200");
+        Counted x = Checker.sized(8, 4, "00001200", "00001200", "00001200", "00001200");
         due("promise 21: costWith(-1)", x.costWith(-1), 2 + 4 + 2 + 2 * 12);
         due("promise 9: addKey()", x.addKey(), 32);
         due("promise 9: the same again is raw too", x.addKey(), 32);
@@ -50,7 +50,7 @@ public final class CodingTest {
     }
 
     private static void keepAndMove() {
-        FrameDeltas x = Checker.sized(8, 4, "12345678", "9abcdef0", "12345678", "9abcdef0");
+        Counted x = Checker.sized(8, 4, "12345678", "9abcdef0", "12345678", "9abcdef0");
         x.addKey();
         due("promise 10: all kept", x.addDelta(0), 2 + 1 + 1);
         code("keep", x, 1, 0, 0, -9, -9, -9);
@@ -85,7 +85,7 @@ public final class CodingTest {
 
     /** The numbers: the blocks that have the picture, then dx and dy that are due. */
     private static void moveFrom(String what, int... numbers) {
-        FrameDeltas x = new FrameDeltas();
+        Counted x = new Counted();
         x.setSize(12, 12);
         x.setLimits(4, 4, 0);
         for (int i = 0; i < numbers.length - 2; i++) {
@@ -98,7 +98,7 @@ public final class CodingTest {
         code(what, x, 1, 4, 1, numbers[numbers.length - 2], numbers[numbers.length - 1], -9);
     }
 
-    private static void picture(FrameDeltas x, int block) {
+    private static void picture(Counted x, int block) {
         for (int i = 0; i < 16; i++) {
             x.setCell((block / 3 * 4 + i / 4) * 12 + block % 3 * 4 + i % 4, (i * 7 + 3) % 16);
         }
@@ -112,7 +112,7 @@ public final class CodingTest {
         evenArea("just left and below", "box 3 5 4 4 7;", -1, 1);
         evenArea("two up", "box 4 2 4 4 7;box 5 3 4 4 7;", 0, -2);
         evenArea("smallest sum before smallest dy", "box 4 2 4 4 7;box 5 4 4 4 7;", 1, 0);
-        FrameDeltas x = Checker.sized(4, 4, "7000", "7000", "7000", "7000");
+        Counted x = Checker.sized(4, 4, "7000", "7000", "7000", "7000");
         x.addKey();
         Checker.draw(x, "shift -1 0;");
         x.addDelta(0);
@@ -134,7 +134,7 @@ public final class CodingTest {
     }
 
     private static void evenArea(String what, String boxes, int dx, int dy) {
-        FrameDeltas x = new FrameDeltas();
+        Counted x = new Counted();
         x.setSize(12, 12);
         Checker.draw(x, boxes);
         x.addKey();
@@ -146,7 +146,7 @@ public final class CodingTest {
     private static void rangeOfMoves() {
         for (int range = 0; range <= 4; range++) {
             for (int way = 1; way <= 4; way++) {
-                FrameDeltas x = new FrameDeltas();
+                Counted x = new Counted();
                 x.setSize(12, 4);
                 picture(x, 0);
                 x.addKey();
@@ -163,7 +163,7 @@ public final class CodingTest {
     }
 
     private static void deltaAndRaw() {
-        FrameDeltas x = Checker.sized(4, 4, "1234", "5678", "9abc", "def0");
+        Counted x = Checker.sized(4, 4, "1234", "5678", "9abc", "def0");
         x.addKey();
         x.setCell(15, 15);
         due("promise 10: delta", x.addDelta(0), 2 + 2 + 4);
@@ -188,7 +188,7 @@ public final class CodingTest {
     }
 
     private static void runs() {
-        FrameDeltas x = Checker.sized(4, 4, "1112", "2111", "1111", "1110");
+        Counted x = Checker.sized(4, 4, "1112", "2111", "1111", "1110");
         x.addKey();
         int[][] wanted = {{3, 1}, {2, 2}, {10, 1}, {1, 0}};
         for (int r = 0; r < wanted.length; r++) {
@@ -218,7 +218,7 @@ public final class CodingTest {
 
     /** Of 4 by 4 cells: an even canvas costs 6 as a key frame, and 3 if it is kept. */
     private static void chosenReference() {
-        FrameDeltas x = Checker.sized(4, 4);
+        Counted x = Checker.sized(4, 4);
         due("promise 11: the first is a key frame", x.addChosen(), 6);
         due("promise 11: no reference", x.frame(0, 0), -9);
         due("promise 11: kept", x.addChosen(), 3);
@@ -238,7 +238,7 @@ public final class CodingTest {
     }
 
     private static void chosenByDepth() {
-        FrameDeltas x = Checker.sized(4, 4, "1234", "1234", "1234", "1234");
+        Counted x = Checker.sized(4, 4, "1234", "1234", "1234", "1234");
         x.addKey();
         x.setCell(0, 9);
         x.addDelta(0);
@@ -255,7 +255,7 @@ public final class CodingTest {
     }
 
     private static void chosenByNumber() {
-        FrameDeltas x = Checker.sized(4, 4, "1234", "1234", "1234", "1234");
+        Counted x = Checker.sized(4, 4, "1234", "1234", "1234", "1234");
         x.addKey();
         x.addKey();
         x.addDelta(0);
@@ -270,7 +270,7 @@ public final class CodingTest {
     }
 
     private static void chosenWithLimits() {
-        FrameDeltas x = Checker.sized(4, 4, "1234", "1234", "1234", "1234");
+        Counted x = Checker.sized(4, 4, "1234", "1234", "1234", "1234");
         x.setLimits(2, 1, 0);
         x.addKey();
         x.setCell(0, 9);

@@ -3,11 +3,12 @@ import java.util.Random;
 /** Long runs of calls, answered by the class and by the model: the seeds are fixed, so all runs are the same. */
 public final class ModelTest {
     private static final Checker CHECKER = new Checker("ModelTest");
-    private static final int RUNS = 400;
-    private static final int CALLS = 500;
+    private static final int RUNS = 4000;
+    /** A step makes at most as many calls, but for the typing of a text. */
+    private static final int STEP = 12;
 
     private final Random dice;
-    private final FrameDeltas x = new FrameDeltas();
+    private final Counted x = new Counted();
     private final Model m = new Model();
     private final String run;
 
@@ -22,7 +23,7 @@ public final class ModelTest {
             if (seed % 3 != 0) {
                 test.resize(seed % 2 == 0 ? 12 : 4, seed % 5 == 0 ? 4 : 8);
             }
-            for (int call = 0; call < CALLS; call++) {
+            while (test.x.left() >= STEP) {
                 test.step();
             }
         }
@@ -117,7 +118,7 @@ public final class ModelTest {
 
     private void draw() {
         StringBuilder text = new StringBuilder();
-        for (int n = roll(4); n >= 0; n--) {
+        for (int n = roll(3) / 2; n >= 0; n--) {
             text.append(command());
         }
         if (roll(5) == 0) {
@@ -135,8 +136,11 @@ public final class ModelTest {
                     break;
             }
         }
+        if (text.length() + STEP > x.left()) {
+            return;
+        }
+        due("clearText()", x.clearText(), m.text.length());
         m.text = text.toString();
-        due("clearText()", x.clearText() >= 0 ? 0 : -1, 0);
         for (int i = 0; i < text.length(); i++) {
             due("appendCharacter", x.appendCharacter(text.charAt(i)), i + 1);
         }
@@ -238,32 +242,28 @@ public final class ModelTest {
         Model.Rec rec = m.frames.get(f);
         int[] wanted = {rec.reference() < 0 ? -9 : rec.reference(), rec.cost(), m.seek(f), m.chain(f).size() - 1,
             m.readable(f) ? 1 : 0, rec.ofKind(0), rec.ofKind(1), rec.ofKind(2), rec.ofKind(3)};
-        for (int what = 0; what < wanted.length; what++) {
+        for (int i = 0; i < 3; i++) {
+            int what = roll(wanted.length);
             due("frame(" + f + ", " + what + ")", x.frame(f, what), wanted[what]);
         }
-        askCodes(f, rec);
-        int[][] image = m.image(f);
-        for (int cell = 0; cell < m.width * m.height; cell++) {
-            due("pixel(" + f + ", " + cell + ")", x.pixel(f, cell),
-                    m.readable(f) ? image[cell / m.width][cell % m.width] : -2);
-        }
+        askCode(f, roll(m.blocks()), rec);
+        int cell = roll(m.width * m.height);
+        due("pixel(" + f + ", " + cell + ")", x.pixel(f, cell),
+                m.readable(f) ? m.image(f)[cell / m.width][cell % m.width] : -2);
     }
 
-    private void askCodes(int f, Model.Rec rec) {
-        for (int b = 0; b < m.blocks(); b++) {
-            Model.Code code = rec.codes().get(b);
-            boolean moved = code.kind() == 1;
-            int[] wanted = {code.kind(), moved ? code.dx() : -9, moved ? code.dy() : -9,
-                code.kind() >= 2 ? code.runs().size() : -9};
-            for (int part = 0; part < 4; part++) {
-                due("code(" + f + ", " + b + ", " + part + ")", x.code(f, b, part), wanted[part]);
-            }
-            for (int r = 0; r <= code.runs().size(); r++) {
-                for (int part = 0; part < 2; part++) {
-                    due("run(" + f + ", " + b + ", " + r + ", " + part + ")", x.run(f, b, r, part),
-                            r < code.runs().size() ? code.runs().get(r)[part] : -9);
-                }
-            }
+    private void askCode(int f, int b, Model.Rec rec) {
+        Model.Code code = rec.codes().get(b);
+        boolean moved = code.kind() == 1;
+        int[] wanted = {code.kind(), moved ? code.dx() : -9, moved ? code.dy() : -9,
+            code.kind() >= 2 ? code.runs().size() : -9};
+        for (int part = roll(4); part < 4; part += 2) {
+            due("code(" + f + ", " + b + ", " + part + ")", x.code(f, b, part), wanted[part]);
+        }
+        int run = roll(code.runs().size() + 1);
+        for (int part = 0; part < 2; part++) {
+            due("run(" + f + ", " + b + ", " + run + ", " + part + ")", x.run(f, b, run, part),
+                    run < code.runs().size() ? code.runs().get(run)[part] : -9);
         }
     }
 
@@ -328,10 +328,10 @@ public final class ModelTest {
         int cost = m.frames.stream().mapToInt(Model.Rec::cost).sum();
         int[] wanted = {m.width, m.height, m.frames.size(), m.range, m.depth, m.rate, cost, m.readables(),
             m.text.length(), m.saved.size()};
-        for (int what = 0; what < wanted.length; what++) {
+        for (int i = 0; i < 5; i++) {
+            int what = roll(wanted.length);
             due("count(" + what + ")", x.count(what), wanted[what]);
-        }
-        for (int cell = 0; cell < m.width * m.height; cell++) {
+            int cell = roll(m.width * m.height);
             due("cell(" + cell + ")", x.cell(cell), m.canvas[cell / m.width][cell % m.width]);
         }
     }

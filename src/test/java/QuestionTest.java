@@ -25,7 +25,7 @@ public final class QuestionTest {
     }
 
     private static void costs() {
-        FrameDeltas x = Checker.sized(4, 4);
+        Counted x = Checker.sized(4, 4);
         due("promise 21: a key frame", x.costWith(-1), 6);
         due("promise 21: no frame", x.costWith(0), -1);
         due("promise 21: -2", x.costWith(-2), -1);
@@ -43,7 +43,7 @@ public final class QuestionTest {
     }
 
     private static void differences() {
-        FrameDeltas x = Checker.sized(4, 8);
+        Counted x = Checker.sized(4, 8);
         x.addKey();
         x.setCell(0, 1);
         x.setCell(31, 1);
@@ -66,7 +66,7 @@ public final class QuestionTest {
     }
 
     private static void finding() {
-        FrameDeltas x = new FrameDeltas();
+        Counted x = new Counted();
         x.setSize(12, 12);
         Checker.draw(x, "box 5 3 4 4 7;box 3 8 4 4 7;");
         x.addKey();
@@ -92,7 +92,7 @@ public final class QuestionTest {
     }
 
     private static void findingErrors() {
-        FrameDeltas x = Checker.sized(4, 8);
+        Counted x = Checker.sized(4, 8);
         x.addKey();
         due("promise 23: block 2", x.findBlock(0, 2), -1);
         due("promise 23: block -1", x.findBlock(0, -1), -1);
@@ -106,7 +106,7 @@ public final class QuestionTest {
 
     /** 9973 parts into a number system of 31: parts with the same digest are made by hand. */
     private static void matches() {
-        FrameDeltas x = new FrameDeltas();
+        Counted x = new Counted();
         x.setSize(4, 4);
         due("promise 24: one part", x.falseMatches(-1), 0);
         x.setSize(12, 12);
@@ -114,11 +114,13 @@ public final class QuestionTest {
         x.setSize(12, 4);
         int[] other = sameDigestAsZeros();
         CHECKER.holds("promise 24: the test found its part", other.length == 16);
+        int[] cells = new int[48];
         for (int i = 0; i < 16; i++) {
-            x.setCell(i / 4 * 12 + 8 + i % 4, other[i]);
+            cells[i / 4 * 12 + 8 + i % 4] = other[i];
         }
+        Checker.paint(x, cells);
         due("promise 24: digests", x.digest(-1, 8, 0), x.digest(-1, 0, 0));
-        long pairs = pairsOf(x);
+        long pairs = pairsOf(cells, x);
         CHECKER.holds("promise 24: there are false ones", pairs > 0);
         due("promise 24: false matches of the canvas", x.falseMatches(-1), pairs);
         x.addKey();
@@ -136,21 +138,17 @@ public final class QuestionTest {
 
     /** Parts that overlap by three rows, made the same digest by the last row. */
     private static void neighbours() {
-        FrameDeltas x = Checker.sized(4, 8, "1234", "5678", "9abc", "def1");
-        int made = 0;
-        for (int number = 0; number < 65536 && made == 0; number++) {
-            int[] image = new int[20];
-            for (int i = 0; i < 20; i++) {
-                image[i] = i < 16 ? x.cell(i) : number >> 4 * (i - 16) & 15;
+        int[] image = {1, 2, 3, 4, 5, 6, 7, 8, 9, 10, 11, 12, 13, 14, 15, 1, 0, 0, 0, 0};
+        boolean made = false;
+        for (int number = 0; number < 65536 && !made; number++) {
+            for (int i = 16; i < 20; i++) {
+                image[i] = number >> 4 * (i - 16) & 15;
             }
-            if (digestOf(image, 0) == digestOf(image, 4)) {
-                made = number;
-            }
+            made = digestOf(image, 0) == digestOf(image, 4);
         }
-        CHECKER.holds("promise 24: the test found its row", made > 0);
-        for (int i = 16; i < 20; i++) {
-            x.setCell(i, made >> 4 * (i - 16) & 15);
-        }
+        CHECKER.holds("promise 24: the test found its row", made);
+        Counted x = Checker.sized(4, 8);
+        Checker.paint(x, image);
         due("promise 24: digests", x.digest(-1, 0, 0), x.digest(-1, 0, 1));
         due("promise 24: neighbours", x.falseMatches(-1), 1);
     }
@@ -163,18 +161,19 @@ public final class QuestionTest {
         return digest;
     }
 
-    /** A part in the last corner of 12 by 12 cells; outside of it no part counts. */
+    /** A part in the last corner of 12 by 12 cells; what touches it is asked for its digest by hand. */
     private static void lastCorner() {
-        FrameDeltas x = new FrameDeltas();
-        x.setSize(12, 12);
         int[] other = sameDigestAsZeros();
+        int[] cells = new int[144];
         for (int i = 0; i < 16; i++) {
-            x.setCell((8 + i / 4) * 12 + 8 + i % 4, other[i]);
+            cells[(8 + i / 4) * 12 + 8 + i % 4] = other[i];
         }
+        Counted x = Checker.sized(12, 12);
+        Checker.paint(x, cells);
         int zeros = 0;
         int alike = 0;
         for (int p = 0; p < 81; p++) {
-            boolean isZero = p % 9 <= 4 || p / 9 <= 4 || !touches(x, p % 9, p / 9);
+            boolean isZero = isZero(cells, p / 9 * 12 + p % 9);
             zeros += isZero ? 1 : 0;
             alike += !isZero && x.digest(-1, p % 9, p / 9) == 1574 ? 1 : 0;
         }
@@ -182,13 +181,13 @@ public final class QuestionTest {
         due("promise 24: with the last corner", x.falseMatches(-1), zeros * alike);
     }
 
-    private static boolean touches(FrameDeltas x, int left, int top) {
+    private static boolean isZero(int[] cells, int corner) {
         for (int i = 0; i < 16; i++) {
-            if (x.cell((top + i / 4) * 12 + left + i % 4) != 0) {
-                return true;
+            if (cells[corner + i / 4 * 12 + i % 4] != 0) {
+                return false;
             }
         }
-        return false;
+        return true;
     }
 
     private static int[] sameDigestAsZeros() {
@@ -206,14 +205,14 @@ public final class QuestionTest {
         return new int[0];
     }
 
-    private static long pairsOf(FrameDeltas x) {
+    private static long pairsOf(int[] cells, Counted x) {
         long pairs = 0;
         for (int a = 0; a <= 8; a++) {
             for (int b = a + 1; b <= 8; b++) {
                 boolean unlike = false;
                 for (int i = 0; i < 16; i++) {
                     int row = i / 4 * 12 + i % 4;
-                    unlike |= x.cell(row + a) != x.cell(row + b);
+                    unlike |= cells[row + a] != cells[row + b];
                 }
                 if (unlike && x.digest(-1, a, 0) == x.digest(-1, b, 0)) {
                     pairs++;
@@ -224,7 +223,7 @@ public final class QuestionTest {
     }
 
     private static void seeks() {
-        FrameDeltas x = Checker.sized(4, 4, "1200", "0000", "0000", "0000");
+        Counted x = Checker.sized(4, 4, "1200", "0000", "0000", "0000");
         due("promise 25: none", x.greatestSeek(), -9);
         x.addKey();
         due("promise 25: one", x.greatestSeek(), 10);
@@ -242,7 +241,7 @@ public final class QuestionTest {
     }
 
     private static void dependent() {
-        FrameDeltas x = Checker.sized(4, 4);
+        Counted x = Checker.sized(4, 4);
         due("promise 26: none", x.dependents(0), -1);
         x.addKey();
         x.addDelta(0);
@@ -264,7 +263,7 @@ public final class QuestionTest {
     }
 
     private static void patches() {
-        FrameDeltas x = Checker.sized(4, 4);
+        Counted x = Checker.sized(4, 4);
         x.addKey();
         x.setCell(0, 1);
         x.addKey();
@@ -290,7 +289,7 @@ public final class QuestionTest {
     }
 
     private static void patchOfAllCells() {
-        FrameDeltas x = new FrameDeltas();
+        Counted x = new Counted();
         x.setSize(12, 12);
         x.addKey();
         Checker.draw(x, "fill 1;");
@@ -302,7 +301,7 @@ public final class QuestionTest {
 
     /** Every set by itself: sums and chains are made from what costWith says of the images. */
     private static void plans() {
-        FrameDeltas x = new FrameDeltas();
+        Counted x = new Counted();
         due("promise 28: none", x.planCost(), -9);
         due("promise 29: none", x.planKeys(), -9);
         x.setSize(8, 8);
@@ -356,7 +355,7 @@ public final class QuestionTest {
     }
 
     private static void planTies() {
-        FrameDeltas x = Checker.sized(4, 4);
+        Counted x = Checker.sized(4, 4);
         for (int f = 0; f < 10; f++) {
             Checker.draw(x, "fill " + f + ";");
             x.addKey();
@@ -370,7 +369,7 @@ public final class QuestionTest {
 
     /** Three even images of 4 by 4 cells with one that differs: two key frames, of two sets the smaller. */
     private static void planOfNumbers() {
-        FrameDeltas x = Checker.sized(4, 4);
+        Counted x = Checker.sized(4, 4);
         for (int f = 0; f < 3; f++) {
             x.addKey();
         }

@@ -1,3 +1,5 @@
+import java.util.function.Supplier;
+
 /** Promise 30: undo, and which calls save a state. */
 public final class UndoTest {
     private static final Checker CHECKER = new Checker("UndoTest");
@@ -17,7 +19,7 @@ public final class UndoTest {
     }
 
     private static void none() {
-        FrameDeltas x = new FrameDeltas();
+        Counted x = new Counted();
         due("none", x.undo(), -2);
         x.setCell(0, 1);
         due("one", x.undo(), 0);
@@ -26,8 +28,8 @@ public final class UndoTest {
     }
 
     /** A sequence with a chain, a lost record and limits of its own. */
-    private static FrameDeltas prepared() {
-        FrameDeltas x = Checker.sized(8, 4, "12345678", "12345678", "9abcdef0", "0fedcba9");
+    private static Counted prepared() {
+        Counted x = Checker.sized(8, 4, "12345678", "12345678", "9abcdef0", "0fedcba9");
         x.setLimits(3, 5, 2);
         x.addKey();
         Checker.draw(x, "shift 1 0;");
@@ -39,7 +41,7 @@ public final class UndoTest {
         return x;
     }
 
-    private static int call(FrameDeltas x, int number) {
+    private static int call(Counted x, int number) {
         switch (number) {
             case 0:
                 return x.setSize(12, 12);
@@ -75,34 +77,25 @@ public final class UndoTest {
     }
 
     private static void everyCall() {
+        Supplier<Counted> before = UndoTest::prepared;
+        String answers = Checker.allAnswers(before);
+        due("six are saved", prepared().count(9), 6);
         for (int number = 0; number <= 13; number++) {
-            FrameDeltas x = prepared();
-            String before = Checker.allAnswers(x);
-            due("six are saved", x.count(9), 6);
-            CHECKER.holds("call " + number + " succeeds", call(x, number) >= 0);
-            due("six are saved still", x.count(9), 6);
-            if (number < 11) {
-                CHECKER.holds("call " + number + " changes something", !before.equals(Checker.allAnswers(x)));
-            }
-            due("undo of call " + number, x.undo(), 5);
-            String after = Checker.allAnswers(x);
-            // the number of saved states is the one thing that differs
-            CHECKER.holds("undo of call " + number + " restores all",
-                    withoutSaved(after).equals(withoutSaved(before)));
-            due("five are saved", x.count(9), 5);
-            call(x, number);
-            due("call " + number + " saves one state", x.count(9), 6);
+            int n = number;
+            CHECKER.holds("call " + n + " succeeds", call(prepared(), n) >= 0);
+            Supplier<Counted> after = Checker.after(before, x -> call(x, n));
+            due("six are saved still", after.get().count(9), 6);
+            CHECKER.holds("call " + n + " changes something", n >= 11 || !answers.equals(Checker.allAnswers(after)));
+            due("undo of call " + n, after.get().undo(), 5);
+            Supplier<Counted> back = Checker.after(after, Counted::undo);
+            CHECKER.holds("undo of call " + n + " restores all", answers.equals(Checker.allAnswers(back)));
+            due("five are saved", back.get().count(9), 5);
+            due("call " + n + " saves one state", Checker.after(back, x -> call(x, n)).get().count(9), 6);
         }
     }
 
-    private static String withoutSaved(String answers) {
-        String[] words = answers.split(" ", 11);
-        words[9] = "";
-        return String.join(" ", words);
-    }
-
     private static void sixStates() {
-        FrameDeltas x = new FrameDeltas();
+        Counted x = new Counted();
         for (int value = 1; value <= 8; value++) {
             x.setCell(0, value);
             due("saved", x.count(9), Math.min(value, 6));
@@ -116,7 +109,7 @@ public final class UndoTest {
     }
 
     private static void overAndOver() {
-        FrameDeltas x = new FrameDeltas();
+        Counted x = new Counted();
         for (int round = 0; round < 20; round++) {
             int first = x.cell(1);
             x.setCell(1, round % 16);
@@ -130,7 +123,7 @@ public final class UndoTest {
             due("back", x.cell(1), first);
             x.setCell(1, (first + 5) % 16);
         }
-        FrameDeltas y = Checker.sized(4, 4);
+        Counted y = Checker.sized(4, 4);
         y.addKey();
         y.addKey();
         y.removeLast();
@@ -145,7 +138,7 @@ public final class UndoTest {
     }
 
     private static void textStays() {
-        FrameDeltas x = new FrameDeltas();
+        Counted x = new Counted();
         Checker.type(x, "fill 3;");
         x.draw();
         Checker.type(x, "swap");
@@ -160,7 +153,7 @@ public final class UndoTest {
     }
 
     private static void othersSaveNothing() {
-        FrameDeltas x = prepared();
+        Counted x = prepared();
         x.undo();
         int saved = x.count(9);
         x.appendCharacter(102);
@@ -168,10 +161,19 @@ public final class UndoTest {
         x.clearText();
         x.cell(0);
         x.digest(-1, 0, 0);
-        Checker.allAnswers(x);
+        x.frame(0, 0);
+        x.code(0, 0, 0);
+        x.run(0, 0, 0, 0);
+        x.pixel(0, 0);
+        x.costWith(0);
         x.difference(0, 1);
         x.findBlock(0, 0);
         x.falseMatches(-1);
+        x.greatestSeek();
+        x.dependents(0);
+        x.patch(0);
+        x.planCost();
+        x.planKeys();
         due("questions and the text save nothing", x.count(9), saved);
         due("the text is left", x.count(8), 0);
     }
