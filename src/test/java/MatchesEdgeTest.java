@@ -14,7 +14,9 @@ public final class MatchesEdgeTest {
         blocksOfTheCanvas();
         noMatches();
         randomMatches();
-        fewParts();
+        manyMatches();
+        oneAlone();
+        narrowImages();
         CHECKER.finish();
     }
 
@@ -176,8 +178,36 @@ public final class MatchesEdgeTest {
         return digest;
     }
 
-    /** One part has no pair; of parts in a row each pair counts once. */
-    private static void fewParts() {
+    /** Blocks of just two kinds, whose digests are the same: each of one kind is a false match of each of the other. */
+    private static void manyMatches() {
+        for (int seed = 0; seed < 100; seed++) {
+            Random dice = new Random(seed);
+            int width = 4 + seed % 3 * 4;
+            int height = 4 + seed / 3 % 3 * 4;
+            int[] cells = new int[width * height];
+            int[] kinds = new int[2];
+            for (int block = 0; block < width * height / 16; block++) {
+                int kind = dice.nextInt(2);
+                kinds[kind]++;
+                // 10 * 961 + 12 * 31 - 9 is the modulus
+                int last = (block / (width / 4) * 4 + 3) * width + block % (width / 4) * 4 + 1;
+                cells[last] = kind == 0 ? 0 : 10;
+                cells[last + 1] = kind == 0 ? 0 : 12;
+                cells[last + 2] = kind == 0 ? 9 : 0;
+            }
+            Counted x = Checker.sized(width, height);
+            Checker.paint(x, cells);
+            String what = "two kinds of blocks, seed " + seed;
+            due(what, x.falseMatches(-1), count(cells, width, height));
+            CHECKER.holds(what + ", each with each", x.falseMatches(-1) >= kinds[0] * kinds[1]);
+            if (width == 4 && height == 8) {
+                due(what + ", one pair if they are unlike", x.falseMatches(-1), kinds[0] * kinds[1]);
+            }
+        }
+    }
+
+    /** One part has no pair. */
+    private static void oneAlone() {
         for (int seed = 0; seed < 20; seed++) {
             Random dice = new Random(seed);
             int[] cells = new int[16];
@@ -187,6 +217,28 @@ public final class MatchesEdgeTest {
             Counted x = Checker.sized(4, 4);
             Checker.paint(x, cells);
             due("one part alone", x.falseMatches(-1), 0);
+        }
+    }
+
+    /** Parts that lie in one row or in one column. */
+    private static void narrowImages() {
+        for (int[] size : new int[][] {{4, 8}, {8, 4}, {4, 12}, {12, 4}}) {
+            int found = 0;
+            for (int seed = 0; seed < 4000; seed++) {
+                Random dice = new Random(seed);
+                int[] cells = new int[size[0] * size[1]];
+                for (int i = 0; i < cells.length; i++) {
+                    cells[i] = dice.nextInt(16);
+                }
+                int wanted = count(cells, size[0], size[1]);
+                if (wanted > 0 || seed < 20) {
+                    Counted x = Checker.sized(size[0], size[1]);
+                    Checker.paint(x, cells);
+                    due(size[0] + " by " + size[1] + ", seed " + seed, x.falseMatches(-1), wanted);
+                    found += wanted;
+                }
+            }
+            CHECKER.holds("false matches in " + size[0] + " by " + size[1], found > 0);
         }
     }
 }

@@ -1,3 +1,4 @@
+import java.util.Random;
 import java.util.function.ToIntFunction;
 
 /** "Records", sentence by sentence: ten frames, codes and run lists, their costs, the range; promises 9, 12 and 16 to 20. */
@@ -19,6 +20,7 @@ public final class RecordsEdgeTest {
         partsOfCodes();
         leastAndGreatestCosts();
         codesOverOlderOnes();
+        decodedByHand();
         recordsStay();
         propertiesOfLost();
         countsOfNothing();
@@ -322,6 +324,81 @@ public final class RecordsEdgeTest {
         x.addKey();
         x.addDelta(0);
         due("keep after another size", x.code(1, 0, 0), 0);
+    }
+
+    /** Images whose blocks are kept, moved and changed: what code() and run() tell gives the pixels, and the costs. */
+    private static void decodedByHand() {
+        int[] kinds = new int[4];
+        for (int seed = 0; seed < 200; seed++) {
+            Random dice = new Random(seed);
+            int width = 4 + seed % 3 * 4;
+            int height = width == 12 ? 4 : 8;
+            Counted x = Checker.sized(width, height);
+            x.setLimits(dice.nextInt(5), 9, 0);
+            // more of the greater images would take too many calls
+            int[][] images = new int[width == 8 ? 2 : 3][];
+            for (int f = 0; f < images.length; f++) {
+                paintSome(x, dice, width, height);
+                int cost = f == 0 ? x.addKey() : x.addDelta(dice.nextInt(f));
+                int[] sum = {2};
+                images[f] = decode(x, f, images, sum);
+                due("the sum of its codes' costs, frame " + f + ", seed " + seed, sum[0], cost);
+                int wrong = 0;
+                for (int cell = 0; cell < width * height; cell++) {
+                    wrong += x.pixel(f, cell) == images[f][cell] ? 0 : 1;
+                }
+                due("wrong cells of frame " + f + ", seed " + seed, wrong, 0);
+                for (int kind = 0; kind < 4; kind++) {
+                    kinds[kind] += x.frame(f, 5 + kind);
+                }
+            }
+        }
+        for (int kind = 0; kind < 4; kind++) {
+            CHECKER.holds("codes of kind " + kind + " were seen", kinds[kind] > 20);
+        }
+    }
+
+    private static void paintSome(Counted x, Random dice, int width, int height) {
+        boolean shifted = x.count(2) > 0 && dice.nextInt(4) > 0;
+        if (shifted) {
+            Checker.draw(x, "shift " + (dice.nextInt(3) - 1) + " " + (dice.nextInt(3) - 1) + ";");
+        }
+        for (int n = shifted ? dice.nextInt(2) : 3; n > 0; n--) {
+            Checker.draw(x, "box " + dice.nextInt(width) + " " + dice.nextInt(height) + " " + dice.nextInt(5) + " "
+                    + dice.nextInt(5) + " " + dice.nextInt(16) + ";");
+        }
+    }
+
+    /** The cells that a record gives; the costs of its codes are added up. */
+    private static int[] decode(Counted x, int frame, int[][] images, int[] sum) {
+        int width = x.count(0);
+        int[] image = new int[width * x.count(1)];
+        int reference = x.frame(frame, 0);
+        for (int b = 0; b < image.length / 16; b++) {
+            int corner = b / (width / 4) * 4 * width + b % (width / 4) * 4;
+            int kind = x.code(frame, b, 0);
+            int runs = x.code(frame, b, 3);
+            int from = kind == 1 ? corner + x.code(frame, b, 2) * width + x.code(frame, b, 1) : corner;
+            sum[0] += kind == 0 ? 1 : kind == 1 ? 3 : 2 + 2 * runs;
+            int run = -1;
+            int left = 0;
+            int added = 0;
+            for (int i = 0; i < 16; i++) {
+                int step = i / 4 * width + i % 4;
+                int value = kind == 3 ? 0 : images[reference][from + step];
+                if (kind >= 2) {
+                    if (left == 0) {
+                        run++;
+                        left = x.run(frame, b, run, 0);
+                        added = x.run(frame, b, run, 1);
+                    }
+                    value = (value + added) % 16;
+                    left--;
+                }
+                image[corner + step] = value;
+            }
+        }
+        return image;
     }
 
     /** What a record is stays, whatever becomes of the canvas and of the limits. */
