@@ -453,7 +453,8 @@ public final class FrameDeltas {
 
     /** The slots form a ring, so the one behind six saved states is that of the oldest. */
     private State savedSlot(int age) {
-        return saved[Math.floorMod(oldestSaved + age, MOST_SAVED)];
+        int slot = (oldestSaved + age) % MOST_SAVED;
+        return slot >= 0 && slot < saved.length ? saved[slot] : state;
     }
 
     private int add(int reference) {
